@@ -868,8 +868,11 @@ public final class SlideZips {
         private long right;
         private int closed;
         private int height;
+        /** Strains (bits) by which nothing bursts as long as no grip and nothing closed changes. */
+        private int harmless;
 
         void makeEmpty(boolean asCoil) {
+            harmless = 0;
             places = 0;
             coil = asCoil;
             left = 0;
@@ -889,6 +892,17 @@ public final class SlideZips {
             right = other.right;
             closed = other.closed;
             height = other.height;
+            harmless = other.harmless;
+        }
+
+        boolean isHarmless(int strain) {
+            return strain < 32 && (harmless >> strain & 1) != 0;
+        }
+
+        void findHarmless(int strain) {
+            if (strain < 32) {
+                harmless |= 1 << strain;
+            }
         }
 
         int size() {
@@ -920,6 +934,7 @@ public final class SlideZips {
         }
 
         void putGrip(int tape, int at, int grip) {
+            harmless = 0;
             long others = ~(15L << 4 * at);
             long put = (long) grip << 4 * at;
             if (tape == LEFT) {
@@ -975,6 +990,7 @@ public final class SlideZips {
         }
 
         void slideTo(int to) {
+            harmless = 0;
             height = to;
             closed = holding() & (1 << to) - 1;
         }
@@ -984,6 +1000,7 @@ public final class SlideZips {
         }
 
         void openAt(int at) {
+            harmless = 0;
             closed &= ~(1 << at);
         }
 
@@ -1071,6 +1088,7 @@ public final class SlideZips {
         }
 
         void takeState(long leftGrips, long rightGrips, int bits) {
+            harmless = 0;
             left = leftGrips;
             right = rightGrips;
             closed = bits & (1 << MOST_PLACES) - 1;
@@ -1110,6 +1128,7 @@ public final class SlideZips {
         private int from;
         private int to;
         private boolean told;
+        private boolean ofDay;
         private final int[] stack;
 
         Rule(int[] sharedSteps) {
@@ -1117,11 +1136,13 @@ public final class SlideZips {
             from = 0;
             to = 0;
             told = false;
+            ofDay = false;
             stack = new int[DEEPEST];
         }
 
         void untell() {
             told = false;
+            ofDay = false;
         }
 
         boolean isTold() {
@@ -1132,6 +1153,14 @@ public final class SlideZips {
             from = first;
             to = behind;
             told = true;
+            for (int i = Math.max(0, from); i < to && i < steps.length; i++) {
+                ofDay = ofDay || steps[i] == DAY;
+            }
+        }
+
+        /** Whether it may answer otherwise on another day. */
+        boolean asksForDay() {
+            return ofDay;
         }
 
         int value(int strain, int place, int hold, int day, int own) {
@@ -1332,7 +1361,8 @@ public final class SlideZips {
         int pass(Zip it, int hard, int aDay) {
             int burst = 0;
             first = NONE;
-            boolean again = it.closedBits() != 0;
+            // Most days of a long trial change nothing: what held by this strain holds by it again.
+            boolean again = it.closedBits() != 0 && !it.isHarmless(hard);
             // Each round but the last opens a place, which bounds them.
             for (int round = 0; again && round <= MOST_PLACES; round++) {
                 again = false;
@@ -1344,6 +1374,9 @@ public final class SlideZips {
                         again = true;
                     }
                 }
+            }
+            if (burst == 0 && !pulls.asksForDay()) {
+                it.findHarmless(hard);
             }
             return burst;
         }

@@ -179,6 +179,8 @@ public final class PromiseTest {
         faulty("x", 1, 0);
         faulty("zipp 1 to 1;", 1, 0);
         faulty("Zip 1 to 1;", 1, 0);
+        faulty("xip 1 to 1;", 1, 0);
+        faulty("zip 1 ta 1;", 1, 6);
         faulty("\tzip 1 to 1;", 1, 0);
         faulty("zip", 1, 3);
         faulty("zip ;", 1, 4);
@@ -241,6 +243,8 @@ public final class PromiseTest {
         faulty("pulls bursts;", 3, 6);
         faulty("wears 1+open;", 3, 8);
         faulty("pulls zip;", 3, 6);
+        faulty("pulls xpen;", 3, 6);
+        faulty("pulls 1 ar 1;", 1, 8);
         faulty("pulls or 1;", 3, 6);
         faulty("pulls 1 + not 1;", 3, 10);
         faulty("pulls 1 < not 1;", 3, 10);
@@ -284,6 +288,9 @@ public final class PromiseTest {
         is(3, "and ahead of or", worn("1 or 0 and 0"), 1);
         is(3, "and", worn("3 and 4"), 1);
         is(3, "or", worn("0 or 4"), 1);
+        is(3, "and with a nought", worn("(1 and 0)+(0 and 1)*2+(0 and 0)*4"), 0);
+        is(3, "or is 1 or 0", worn("3+(0 or 0)+(5 or 5)"), 4);
+        is(3, "from the left, with all its parts", worn("0 or 0 or 2 and 3 and 4 and not 0"), 1);
         is(3, "or of noughts", worn("0 or 0"), 0);
         is(3, "without tests as it is", worn("6"), 6);
         is(3, "strain", worn("strain"), 5);
@@ -301,6 +308,18 @@ public final class PromiseTest {
         is(3, "day", x.when(0, 0), 4);
         x = of("zip 2 3 to 9 9;pulls hold+(hold=3);");
         is(3, "hold", x.then(0, 1, 0), 1);
+        // A rule as long as can be, read again and again: it has room each time.
+        String longest = "zip 9 to 9;strain 0;wears 0" + "+1-1".repeat(164) + "+3;pulls day*9+1;";
+        SlideZips y = new SlideZips();
+        for (int i = 0; i < 5; i++) {
+            is(3, "a long text", read(y, longest), 0);
+            is(3, "a long rule", y.then(0, 2, 2), 12);
+            is(3, "a rule with a day", y.when(0, 0), 2);
+        }
+        is(3, "without rules again", read(y, "zip 9 to 9;strain 9 5;"), 0);
+        is(3, "without rules again", y.when(0, 0), NONE);
+        String deep = "1 or 1 and 1<1+1*(".repeat(5) + "1 or 1 and 1<1+1*1" + ")".repeat(5);
+        is(3, "as deep as can be", worn(deep), 1);
     }
 
     private static void counts() {
@@ -403,6 +422,8 @@ public final class PromiseTest {
         is(11, "there is one", x.set(0, 1, 2, 5), false);
         is(11, "grip 0", x.set(0, 0, 2, 0), false);
         is(11, "grip 10", x.set(0, 0, 2, 10), false);
+        is(11, "set", x.set(0, 0, 2, 1), true);
+        x.undo();
         is(11, "set", x.set(0, 0, 2, 9), true);
         is(11, "grip", x.place(0, 2, 0), 9);
         is(11, "stays open", x.zip(0, 2), 0b1011);
@@ -595,6 +616,16 @@ public final class PromiseTest {
         x.slide(0, 1);
         is(20, "an open one", x.tear(0, 3, 2), 0);
         is(20, "an open one", x.tear(0, 3, 4), 1);
+        SlideZips again = of("zip 9 9 9 to 9 9 9;strain 5 5 5 9;pulls strain+open*3;");
+        is(14, "what held by a strain", again.then(0, 3, 4), 0);
+        is(20, "does not hold with a neighbour open", again.tear(0, 1, 9), 0b101);
+        again.days(3);
+        is(20, "nor behind some days", again.tear(0, 1, 9), 0b101);
+        is(20, "by 5 it does", again.tear(0, 1, 5), 0);
+        again.slide(0, 2);
+        is(14, "slid", again.then(0, 1, 4), 2);
+        again.undo();
+        is(14, "undone", again.then(0, 1, 4), 0);
     }
 
     private static void tapes() {
@@ -705,6 +736,12 @@ public final class PromiseTest {
         noSuch(27, "zip", () -> x.toSet(2, 0));
         SlideZips two = of("zip 0 5 0 5 to 0 5 9 5;strain 4;");
         is(27, "the better one", two.toSet(0, 1), 2);
+        SlideZips right = of("zip 9 9 9 to 9 9 0;strain 4;");
+        is(27, "the right one lacks", right.toSet(0, 1), 2);
+        SlideZips weaker = of("zip 9 2 9 to 0 0 9;strain 4;");
+        is(27, "GRIP 9 only where it lacks", weaker.toSet(0, 1), 0);
+        SlideZips nowhere = of("zip 0 4 to 4 0;strain 3;pulls strain;");
+        is(27, "one alone on either tape", nowhere.toSet(0, 1), 0);
         SlideZips gone = of("zip 0 0 to 0 0;strain 9;pulls 99;");
         is(27, "of like ones the lowest", gone.toSet(0, 1), 0);
         SlideZips slid = of("zip 5 0 5 to 5 9 5;strain 4;");
@@ -884,6 +921,9 @@ public final class PromiseTest {
         x.undo();
         noSuch(38, "zip", () -> x.gap(3));
         is(39, "unlike", x.unlike(0, 1), 1 + 4 + 5);
+        x.pinch(0, 0, 0);
+        is(39, "the lowest place, too", x.unlike(0, 1), 11);
+        x.undo();
         is(39, "the other way", x.unlike(1, 0), 10);
         is(39, "one", x.unlike(1, 1), 0);
         is(39, "not as many", x.unlike(0, 2), NONE);
