@@ -69,6 +69,7 @@ public final class FaceTest {
             check(Modifier.isStatic(c.getModifiers()), c + " is not static");
             for (Method m : c.getDeclaredMethods()) {
                 check(!names.contains(m.getName()), m + " bears a name of the face");
+                check(m.getParameterCount() <= 7, m + " has too many parameters");
             }
         }
         for (Method m : SlideZips.class.getDeclaredMethods()) {
@@ -117,7 +118,6 @@ public final class FaceTest {
                 j++;
             }
             check(j - i <= 60, head + " has " + (j - i) + " lines");
-            check(head.chars().filter(c -> c == ',').count() < 7 || head.contains("throws"), head + " has too many parameters");
         }
     }
 }
