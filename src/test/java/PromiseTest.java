@@ -1,74 +1,21 @@
-import java.util.NoSuchElementException;
-
 /** Promise by promise: ordinary inputs, the edges that the document names, wrong inputs. */
-public final class PromiseTest {
-    private static final int NONE = SlideZips.NONE;
-    private static int wrong = 0;
-    private static int checks = 0;
-
-    interface Call { int answer(); }
+public final class PromiseTest extends Checks {
+    interface Ask { int answer(); }
 
     private static void is(int promise, String what, int got, int want) {
-        checks++;
-        if (got != want) {
-            wrong++;
-            System.out.println("promise " + promise + ": " + what + ": " + got + ", due is " + want);
-        }
+        is("promise " + promise + ": " + what, got, want);
     }
 
     private static void is(int promise, String what, boolean got, boolean want) {
-        is(promise, what, got ? 1 : 0, want ? 1 : 0);
+        is("promise " + promise + ": " + what, got, want);
     }
 
-    private static void fails(int promise, String what, Class<?> with, Call call) {
-        checks++;
-        try {
-            int got = call.answer();
-            wrong++;
-            System.out.println("promise " + promise + ": " + what + " answered " + got);
-        } catch (RuntimeException e) {
-            if (e.getClass() != with) {
-                wrong++;
-                System.out.println("promise " + promise + ": " + what + " threw " + e);
-            }
-        }
+    private static void noSuch(int promise, String what, Ask ask) {
+        noSuch("promise " + promise + ": " + what, null, x -> ask.answer());
     }
 
-    private static void noSuch(int promise, String what, Call call) {
-        fails(promise, what, NoSuchElementException.class, call);
-    }
-
-    private static void illegal(int promise, String what, Call call) {
-        fails(promise, what, IllegalArgumentException.class, call);
-    }
-
-    private static void feed(SlideZips x, String text) {
-        for (int i = 0; i < text.length(); i += 20) {
-            int[] w = new int[5];
-            for (int k = 0; k < 20; k++) {
-                w[k / 4] = w[k / 4] << 8 | (i + k < text.length() ? text.charAt(i + k) & 255 : '?');
-            }
-            x.feed(w[0], w[1], w[2], w[3], w[4]);
-        }
-    }
-
-    private static int read(SlideZips x, String text) {
-        feed(x, text);
-        return x.drawer(text.length());
-    }
-
-    private static SlideZips of(String text) {
-        SlideZips x = new SlideZips();
-        int fault = read(x, text);
-        is(3, "drawer of " + text, fault, 0);
-        return x;
-    }
-
-    private static void faulty(String text, int fault, int at) {
-        SlideZips x = new SlideZips();
-        is(3, "drawer of " + text, read(x, text), fault);
-        is(4, "fault of " + text, x.fault(), at);
-        is(5, "texts refused", x.count(9), fault == 0 ? 0 : 1);
+    private static void illegal(int promise, String what, Ask ask) {
+        illegal("promise " + promise + ": " + what, null, x -> ask.answer());
     }
 
     public static void main(String[] args) {
@@ -95,10 +42,7 @@ public final class PromiseTest {
         years();
         gaps();
         images();
-        System.out.println(checks + " checks, " + wrong + " wrong");
-        if (wrong > 0) {
-            System.exit(1);
-        }
+        end("PromiseTest");
     }
 
     private static void newObject() {
