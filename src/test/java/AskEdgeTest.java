@@ -97,6 +97,7 @@ public final class AskEdgeTest extends Checks {
         });
         sentence("BURST of a PLACE: behind how many DAYS (1 to 60) it has BURST first; none", () -> {
             is("1", burstsOn(0).bursts(0, 0), 1);
+            is("1, by 4", of("zip 3 to 3;").bursts(0, 0), 1);
             is("60", burstsOn(59).bursts(0, 0), 60);
             is("61", burstsOn(60).bursts(0, 0), NONE);
             is("from day 999", burstsLate(1058).bursts(0, 0), 60);
@@ -180,6 +181,9 @@ public final class AskEdgeTest extends Checks {
             is("the top, 8", x.tear(0, 15, 8), 0x7fff);
             is("99", x.tear(0, 7, 99), 0xff7f);
             is("the only one", x.tear(2, 0, 99), 0);
+            SlideZips held = of("zip 5 5 to 5 5;strain 4;");
+            held.days(1);
+            is("what held by 4", held.tear(0, 0, 4), 0b10);
             is("nothing is changed", x.count(3), 20);
             x.slide(1, 0);
             is("nothing is closed", x.tear(1, 0, 99), 0);
@@ -221,6 +225,11 @@ public final class AskEdgeTest extends Checks {
             is("of like ones", like.offset(1, 0, 0), -2);
             is("of like ones", like.offset(2, 0, 0), 0);
             is("of like ones below 0", of("zip 5 5 to 0 5;").offset(0, 0, 0), -1);
+            // No place beyond the end of a tape of 16, and none below its first, meets another one.
+            SlideZips ends = of("zip 0 0 0 9 0 0 0 0 9 0 0 0 0 0 0 0 to 0 0 0 0 9 0 0 0 0 0 0 0 0 0 0 9;"
+                + "zip 9 0 0 0 0 0 0 0 0 0 9 0 0 0 0 0 to 0 0 0 0 0 9 0 0 0 0 0 9 0 0 0 0;");
+            is("below", ends.offset(0, 0, 0) * 100 + ends.offset(0, 0, 1), -1191);
+            is("above", ends.offset(1, 1, 0) * 100 + ends.offset(1, 1, 1), -1091);
         });
     }
 
@@ -243,6 +252,12 @@ public final class AskEdgeTest extends Checks {
             mesh("zip 9 9 to 9 0;", 9, 0, NONE);
             mesh("zip 5 0 5 to 5 5 0;", 10, 0, NONE, 1);
             mesh("zip 4 9 1 9 to 9 9 4 1;", 18, NONE, 0, NONE, 1);
+            SlideZips low = of("zip 0 9 " + times(14, "0") + " to 9 " + times(15, "0") + ";");
+            is("16 to 16", low.mesh(0, 0, NONE), 9);
+            is("16 to 16", low.mesh(0, 0, 1), 0);
+            SlideZips high = of("zip " + times(14, "0") + " 9 0 to " + times(15, "0") + " 9;");
+            is("16 to 16", high.mesh(0, 0, NONE), 9);
+            is("16 to 16", high.mesh(0, 0, 14), 15);
             SlideZips x = of(even(16, 9) + "zip 3 to 3;");
             is("16 couples", x.mesh(0, 0, NONE), 144);
             is("the lowest", x.mesh(0, 0, 0), 0);
@@ -353,6 +368,8 @@ public final class AskEdgeTest extends Checks {
             is("nothing holds", none.toSlide(0, 60, 0) * 10 + none.toSlide(0, 60, 1), 0);
             SlideZips all = of(even(16, 9));
             is("the top", all.toSlide(0, 60, 0) * 100 + all.toSlide(0, 60, 1), 1616);
+            SlideZips unlike = of("zip 9 0 9 to 9 9 9;strain 0;");
+            is("to 3, two closed", unlike.toSlide(0, 60, 0) * 10 + unlike.toSlide(0, 60, 1), 32);
             SlideZips lacking = of("zip 9 9 0 0 to 9 9 9 9;strain 0;");
             is("of like ones", lacking.toSlide(0, 1, 0), 2);
             is("how many", lacking.toSlide(0, 1, 1), 2);
@@ -374,6 +391,9 @@ public final class AskEdgeTest extends Checks {
             is("grip 9, not more", of("zip 9 0 to 9 0;strain 9;").toSet(0, 60), 1);
             // What is there stays as it is: 3 doesn't hold, 5 does.
             is("the other tooth stays", of("zip 0 0 to 3 5;pulls strain;").toSet(0, 1), 1);
+            is("also a right one", of("zip 0 9 to 3 0;pulls strain;").toSet(0, 1), 1);
+            is("also both", of("zip 0 0 to 3 0;pulls strain;").toSet(0, 1), 1);
+            is("the left one stays", of("zip 3 5 to 0 0;pulls strain;").toSet(0, 1), 1);
             is("the top of 16", of(even(15, 9).replace(" to", " 0 to").replace(";", " 9;")).toSet(0, 60), 15);
         });
         sentence("and the SLIDER SLID to the top then, leave most CLOSED behind so many DAYS (1 to 60; of like ones the lowest); none, if no TOOTH lacks", () -> {
@@ -466,6 +486,9 @@ public final class AskEdgeTest extends Checks {
             is("it is so without", none.forced(2), 1);
             none.note(0, 0, 1, true);
             is("by 4 it isn't", none.forced(2), 0);
+            SlideZips as = of("zip 5 to 5;strain 9 9;");
+            as.note(0, 0, 1, false);
+            is("so as it is told", as.forced(2), 1);
         });
         sentence("by one of which from now on all NOTED would be so: how many; the first (10 by which, and the other one); whether it is so without (1)", () -> {
             SlideZips x = of("zip 5 to 5;strain 1 2 3;pulls strain;");
@@ -501,6 +524,12 @@ public final class AskEdgeTest extends Checks {
             is("nine numbers", many.look(0) * 10 + many.look(1), 19);
             SlideZips full = of(even(16, 5) + "strain 0;pulls strain;");
             is("16 or none", full.look(1), 2);
+            is("the first day, too", of("zip 5 to 5;strain 4;pulls strain*(day=0);").look(1), 2);
+            is("by 0 alone it is closed", of("zip 1 to 1;strain 5;pulls strain*2;").look(1), 2);
+            is("by 9 alone it is open", of("zip 8 to 8;strain 5;pulls strain;").look(1), 2);
+            is("not by what is told", of("zip 5 to 5;strain 5;pulls (strain=5)*99;").look(1), 1);
+            is("by the second number alone", of("zip 5 to 5;strain 1 1;pulls (strain=0)*(day=1)*99;").look(1), 2);
+            is("by the eighth, if it came", of("zip 5 to 5;strain 1 1 1 1 1 1 1 1;pulls (strain=0)*(day=7)*99;").look(1), 1);
             SlideZips like = of("zip 9 to 9;zip 5 to 5;zip 5 to 5;strain 4;pulls strain;");
             is("of like ones", like.look(0), 1);
             like.note(1, 0, 1, true);
@@ -660,6 +689,12 @@ public final class AskEdgeTest extends Checks {
                 }
             }
             is("nothing is changed", x.count(1) * 1000 + x.count(4), 53);
+            SlideZips four = of("zip 1 to 1;zip 2 to 2;zip 3 to 3;zip 4 to 4;pulls 0;");
+            for (int seed : seeds) {
+                int[] due = yearsWithoutBursts(seed, 60, new int[][][] {{{1}, {1}}, {{2}, {2}}, {{3}, {3}}, {{4}, {4}}});
+                is("closed of four by " + seed, four.years(seed, 60, 1), due[0]);
+                is("grips of four by " + seed, four.years(seed, 60, 2), due[1]);
+            }
             SlideZips one = of("zip 5 to 5;pulls 0;");
             for (int seed : seeds) {
                 int[] due = yearsWithoutBursts(seed, 60, new int[][][] {{{5}, {5}}});
@@ -682,6 +717,8 @@ public final class AskEdgeTest extends Checks {
             is("the right one", x.years(seed, 1, 2), 9);
             is("it still holds", x.years(seed, 1, 1), 1);
             is("open ahead of the day: it can't burst", of("zip 9 to 1;pulls 99;").years(seed, 1, 0), 0);
+            seed = seedFor(0, 3, 6, 2, 6, 0, 1, 0, 1, 0, 2);
+            is("it held a day, then it is weaker", of("zip 5 to 5;strain 5;").years(seed, 2, 0), 1);
             seed = seedFor(0, 1, 6, 0, 1, 0, 1, 1, 2);
             is("pinched ahead of the day", of("zip 9 to 3;").years(seed, 1, 0), 0);
             seed = seedFor(0, 5, 6, 0, 6, 0, 1);
@@ -735,6 +772,7 @@ public final class AskEdgeTest extends Checks {
         });
         sentence("The most PLACES of a ZIP that BURST on one of so many DAYS, if only these go by", () -> {
             is("none", burstsOn(0).most(0, 0), 0);
+            is("none, by 4", of("zip 3 to 3;").most(0, 0), 0);
             is("1", burstsOn(0).most(0, 1), 1);
             is("59", burstsOn(59).most(0, 59), 0);
             is("60", burstsOn(59).most(0, 60), 1);

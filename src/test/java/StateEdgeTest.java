@@ -337,6 +337,12 @@ public final class StateEdgeTest extends Checks {
                 is("slid to " + height, x.slide(1, height), closed[height]);
             }
             is("none", x.zip(1, 2), 0);
+            SlideZips held = of("zip 5 5 to 5 5;strain 4;");
+            held.days(1);
+            is("both held", held.zip(0, 2), 3);
+            held.slide(0, 1);
+            is("with an open neighbour it doesn't", held.then(0, 1, 4), 1);
+            is("nor if it is slid so", held.toSlide(0, 1, 0) * 10 + held.toSlide(0, 1, 1), 22);
             SlideZips again = of("zip 9 5 to 9 5;strain 7;wears 1;");
             again.days(1);
             is("burst", again.zip(0, 2) * 10 + again.zip(0, 1), 12);
@@ -417,6 +423,9 @@ public final class StateEdgeTest extends Checks {
             x.pinch(0, 0, 0);
             x.pinch(0, 0, 1);
             is("pinched: closed stays closed, open open", x.zip(0, 2), 0b01);
+            SlideZips weak = of("zip 8 to 8;strain 0;pulls 10;");
+            weak.pinch(0, 0, 0);
+            is("pinched, it bursts all the same", weak.then(0, 1, 4), 1);
         });
         sentence("False (STATUS 1): there is one, grip not 1 to 9. NoSuchElementException (ahead): also no such tape", () -> {
             SlideZips x = of("zip 0 1 9 to 5 0 5;");
@@ -504,6 +513,31 @@ public final class StateEdgeTest extends Checks {
             }
             is("all", x.undo(), NONE);
         });
+        sentence("days, sliding, pinching, new teeth, tapes that are swapped, all undone", () -> {
+            SlideZips x = of("zip 1 2 to 3 4;coil 5 6 to 7 8;zip 9 8 to 7 6;zip 5 0 to 3 2;strain 2;");
+            Call[] acts = {y -> y.slide(3, 1), y -> y.pinch(3, 1, 1), y -> bit(y.set(3, 0, 1, 9)), y -> bit(y.swap(3, 2)),
+                y -> y.slide(3, 2), y -> y.days(1)};
+            String[] ahead = new String[acts.length];
+            for (int i = 0; i < acts.length; i++) {
+                ahead[i] = state(x);
+                acts[i].on(x);
+                is("it is something", state(x).equals(ahead[i]), false);
+            }
+            for (int i = acts.length - 1; i >= 0; i--) {
+                x.undo();
+                is("as it was, of four", state(x), ahead[i]);
+            }
+            // What holds behind an act doesn't hold any more when it is undone.
+            SlideZips held = of("zip 5 5 to 5 5;strain 4;");
+            held.slide(0, 1);
+            is("an open neighbour", held.then(0, 1, 4), 1);
+            held.slide(0, 2);
+            held.days(1);
+            is("none", held.then(0, 1, 4), 0);
+            held.undo();
+            held.undo();
+            is("an open neighbour again", held.then(0, 1, 4), 1);
+        });
         sentence("ACTS (at most 40 are kept, the latest ones)", () -> {
             SlideZips x = of(even(16, 9));
             for (int i = 1; i <= 39; i++) {
@@ -522,6 +556,8 @@ public final class StateEdgeTest extends Checks {
             is("40 again", x.count(6), 40);
             for (int left = 39; left >= 0; left--) {
                 is("left", x.undo(), left);
+                // Acts 3 to 39 are kept, the two to 1 and 2, and the latest one.
+                is("height", x.zip(0, 1), left == 39 ? 2 : left == 38 ? 1 : (left + 2) % 17);
             }
             is("the first two are no longer kept", x.zip(0, 1), 2);
             is("none", x.undo(), NONE);
@@ -580,8 +616,8 @@ public final class StateEdgeTest extends Checks {
             read(x, "?");
             x.days(4);
             x.slide(0, 3);
-            x.note(0, 0, 2, true);
-            x.note(1, 3, 2, false);
+            x.note(0, 0, 0, true);
+            x.note(1, 0, 0, false);
             x.note(0, 0, 21, true);
             x.slide(0, 9);
             x.slide(0, 9);
@@ -607,6 +643,28 @@ public final class StateEdgeTest extends Checks {
             x.undo();
             is("its acts", x.count(1), 0);
             is("no more of them", x.undo(), NONE);
+            // Other acts and notes in place of those that the image has.
+            for (int i = 0; i < 4; i++) {
+                x.slide(1, i);
+            }
+            x.forget();
+            x.note(0, 0, 0, false);
+            x.note(1, 0, 0, true);
+            is("it isn't so", x.forced(2), 0);
+            is("restored", x.restore(), true);
+            is("all that changes", state(x), kept);
+            is("its notes", x.forced(2), 1);
+            is("its acts", x.undo(), 1);
+            is("its acts", x.zip(0, 1) * 10 + x.zip(1, 1), 44);
+            is("its acts", x.undo(), 0);
+            is("its acts", x.count(1), 0);
+            SlideZips held = of("zip 5 5 to 5 5;strain 4;");
+            held.slide(0, 1);
+            held.image();
+            held.slide(0, 2);
+            held.days(1);
+            held.restore();
+            is("an open neighbour again", held.then(0, 1, 4), 1);
         });
         sentence("AN IMAGE is kept, in place of another one", () -> {
             SlideZips x = of(even(16, 9) + "zip 1 to 1;");

@@ -81,6 +81,7 @@ public final class TextEdgeTest extends Checks {
             feed(x, "coil 5 to 5;");
             is("n nought of twenty", x.drawer(0), 0);
             is("no zips", x.count(0), 0);
+            is("day", x.count(1), 0);
             is("it is empty then", x.count(8), 0);
             is("n nought of none", x.drawer(0), 0);
             // What an older text left in the same room must not be seen.
@@ -484,6 +485,10 @@ public final class TextEdgeTest extends Checks {
             is("strain 99", of("zip 9 9 to 9 9;pulls 99*(strain=99);").tear(0, 0, 99), 2);
             is("strain 98", of("zip 9 9 to 9 9;pulls 99*(strain=99);").tear(0, 0, 98), 0);
             is("day 0", of("zip 9 to 9;pulls 99*(day=0);").when(0, 0), 1);
+            is("day alone", of("zip 5 to 5;pulls day;").when(0, 0), 7);
+            is("strain alone", of("zip 5 to 5;strain 0 0 6;pulls strain;").when(0, 0), 3);
+            is("place alone", of(even(16, 5) + "pulls place;").then(0, 1, 0), 0b111111);
+            is("hold alone", of("zip 5 to 5;pulls hold;").when(0, 0), NONE);
             SlideZips last = of("zip 9 to 9;pulls 99*(day=1058);");
             SlideZips lastOfAll = of("zip 9 to 9;pulls 99*(day=1059);");
             for (int i = 0; i < 50; i++) {
