@@ -15,6 +15,7 @@ public final class AskEdgeTest extends Checks {
         forced();
         looks();
         winds();
+        likely();
         games();
         years();
         calmAndWorst();
@@ -578,6 +579,21 @@ public final class AskEdgeTest extends Checks {
         });
     }
 
+    private static void likely() {
+        sentence("how likely a PLACE is CLOSED behind them: as so many of 10 to the power of these DAYS", () -> {
+            // Open only if the first day is windy and the second calm.
+            SlideZips x = of("zip 9 9 to 9 9;pulls (place=1)*(day=0)*(strain=9)*99+(place=0)*(day=1)*(strain=0)*open*99;");
+            is("one day", x.wind(0, 1, 1, 3), 7);
+            is("the other place, one day", x.wind(0, 0, 1, 3), 10);
+            is("two days", x.wind(0, 0, 2, 3), 100 - 3 * 7);
+            is("five days", x.wind(0, 0, 5, 3), 100000 - 21000);
+            is("certain", x.wind(0, 0, 5, 0), 100000);
+            is("certain", x.wind(0, 0, 5, 10), 100000);
+            is("never", x.wind(0, 1, 5, 10), 0);
+            is("one tenth", x.wind(0, 1, 5, 9), 10000);
+        });
+    }
+
     private static void games() {
         sentence("each gains 2 for each PLACE that is CLOSED in one's own behind 6 DAYS, and loses 1 for each that is in the other's, and 3, if one SLIDES (be it at the top already)", () -> {
             SlideZips x = of("zip 9 9 to 9 9;zip 9 9 to 9 9;strain 0;");
@@ -699,6 +715,29 @@ public final class AskEdgeTest extends Checks {
             for (int seed : seeds) {
                 int[] due = yearsWithoutBursts(seed, 60, new int[][][] {{{5}, {5}}});
                 is("one zip of one place is drawn, too: " + seed, one.years(seed, 60, 2), due[1]);
+            }
+        });
+        sentence("0 the SLIDER of a DRAW of ZIPS is SLID to the top; 1 in a DRAW of ZIPS the TOOTH of a DRAW of its PLACES on a DRAW of 2 tapes (0 LEFT) is PINCHED, if it may be; 2 so the GRIP of one is 1 less, if there is one", () -> {
+            for (int tape = 0; tape <= 1; tape++) {
+                int pinch = seedFor(0, 1, 6, 1, 2, 2, 3, tape, 2);
+                int less = seedFor(0, 2, 6, 1, 2, 2, 3, tape, 2);
+                for (int grip = 0; grip <= 9; grip++) {
+                    String teeth = tape == 0 ? "5 5 " + grip + " to 5 5 5;" : "5 5 5 to 5 5 " + grip + ";";
+                    SlideZips x = of("zip 5 to 5;zip " + teeth + "pulls 0;");
+                    is("pinched, of " + grip, x.years(pinch, 1, 2), 35 + grip + bit(grip >= 1 && grip <= 8));
+                    is("less, of " + grip, x.years(less, 1, 2), 35 + grip - bit(grip >= 1));
+                    is("closed, pinched of " + grip, x.years(pinch, 1, 1), 3 + bit(grip > 0));
+                    is("closed, less of " + grip, x.years(less, 1, 1), 3 + bit(grip > 1));
+                }
+            }
+            SlideZips two = of("zip 5 5 to 5 5;zip 5 5 5 to 5 0 5;pulls 0;");
+            two.slide(0, 0);
+            two.slide(1, 1);
+            is("the first to the top", two.years(seedFor(0, 0, 6, 0, 2), 1, 1), 3);
+            is("the second to the top", two.years(seedFor(0, 0, 6, 1, 2), 1, 1), 2);
+            for (int other = 3; other <= 5; other++) {
+                is("nothing by " + other, two.years(seedFor(0, other, 6), 1, 1), 1);
+                is("nothing by " + other, two.years(seedFor(0, other, 6), 1, 2), 45);
             }
         });
         sentence("(Without ZIPS the DRAWS of 6 alone. A PLACE that doesn't HOLD any more by 2 is OPEN.)", () -> {

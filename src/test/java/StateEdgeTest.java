@@ -102,6 +102,44 @@ public final class StateEdgeTest extends Checks {
     }
 
     private static void zips() {
+        sentence("Of a ZIP: 0 how many PLACES, 1 the HEIGHT of its SLIDER, 2 which are CLOSED (bits), 3 which HOLD (bits), 4 whether a COIL (1), 5 RUNS", () -> {
+            SlideZips x = of("zip 0 to 0;coil 9 to 9;" + even(16, 9) + "zip 9 0 9 9 to 9 9 9 0;pulls strain;");
+            int[][] due = {{1, 1, 0, 0, 0, 0, 0, NONE, NONE, 99}, {1, 1, 1, 1, 1, 1, 1, 0, 0, 9},
+                {16, 16, 0xffff, 0xffff, 0, 1, 16, 0, 0, 9}, {4, 4, 0b0101, 0b0101, 0, 2, 1, 0, 0, 9}};
+            for (int zip = 0; zip < due.length; zip++) {
+                for (int what = 0; what < 10; what++) {
+                    is("zip " + zip + ", what " + what, x.zip(zip, what), due[zip][what]);
+                }
+            }
+            x.slide(2, 0);
+            int[] open = {16, 0, 0, 0xffff, 0, 0, 0, NONE, NONE, 99};
+            for (int what = 0; what < 10; what++) {
+                is("open, what " + what, x.zip(2, what), open[what]);
+            }
+        });
+        sentence("A SLIDER is at a HEIGHT (0 to how many PLACES)", () -> {
+            SlideZips x = of("zip 5 to 5;" + even(16, 5) + "strain 9;");
+            is("at the top", x.zip(0, 1) * 100 + x.zip(1, 1), 116);
+            x.days(1);
+            is("a burst leaves it", x.zip(0, 1) * 100 + x.zip(1, 1), 116);
+            x.slide(0, 0);
+            x.slide(1, 0);
+            is("at 0", x.zip(0, 1) * 100 + x.zip(1, 1), 0);
+            x.slide(0, 1);
+            x.slide(1, 16);
+            is("at the top", x.zip(0, 1) * 100 + x.zip(1, 1), 116);
+        });
+        sentence("An object is used for at most 512 calls after it has been made", () -> {
+            SlideZips x = new SlideZips();
+            x.feed(0x7a697020, 0x39203920, 0x746f2039, 0x20393b20, 0x20202020);
+            is("read", x.drawer(20), 0);
+            // 2 calls till here, 509 more, and the last one of them all.
+            for (int i = 0; i < 509; i++) {
+                int due = i % 3 == 0 ? 1 : i % 3 == 1 ? NONE : 2;
+                is("call " + (i + 3), due == NONE ? x.pinch(0, 0, 0) : x.slide(0, due), due);
+            }
+            is("the 512th", x.count(10), 170);
+        });
         sentence("RUNS of a ZIP: how many there are of CLOSED PLACES side by side; the LONGEST: of how many, its lowest PLACE (of like ones the lowest; none)", () -> {
             runs("0 0 0 0", 0, 0, NONE);
             runs("0", 0, 0, NONE);
@@ -233,6 +271,27 @@ public final class StateEdgeTest extends Checks {
             // Two that begin, with one between them that has two open neighbours at last.
             SlideZips two = of(even(5, 9) + "pulls (place=0)*99+(place=4)*99+(open=2)*99;");
             is("from both sides", two.then(0, 1, 0), 0b01110);
+        });
+        sentence("DAYS go by (1 to 20)", () -> {
+            String text = "zip 9 8 7 6 to 6 7 8 9;coil 5 5 to 5 5;zip 9 to 9;strain 1 2 3 4 5 6 7;pulls strain+open+day/4;";
+            SlideZips atOnce = of(text);
+            SlideZips oneByOne = of(text);
+            is("20 at once", atOnce.days(20), 20);
+            for (int i = 1; i <= 20; i++) {
+                is("one by one", oneByOne.days(1), i);
+            }
+            is("it is the same", state(atOnce), state(oneByOne));
+            is("one act", atOnce.count(6), 1);
+            is("twenty", oneByOne.count(6), 20);
+            is("undone at once", atOnce.undo(), 0);
+            is("undone at once", state(atOnce), state(of(text)));
+        });
+        sentence("A DAY, ZIP by ZIP: PLACE by PLACE, from 0 up", () -> {
+            // Of two neighbours that both burst alone, the lower one is first and is worn first.
+            SlideZips x = of("zip 9 9 to 9 9;zip 9 9 to 9 9;pulls (open=0)*99;wears 3+bursts;");
+            x.days(1);
+            is("the lower one", x.zip(0, 2) * 10 + x.zip(1, 2), 22);
+            is("it is worn", x.place(0, 0, 0) * 10 + x.place(1, 0, 1), 66);
         });
         sentence("The DAY is one more when all ZIPS are done", () -> {
             SlideZips x = of("zip 9 to 9;zip 9 to 9;zip 9 to 9;coil 9 to 9;pulls (day=1)*99;");
@@ -537,6 +596,10 @@ public final class StateEdgeTest extends Checks {
             held.undo();
             held.undo();
             is("an open neighbour again", held.then(0, 1, 4), 1);
+            SlideZips calm = of("zip 9 to 9;strain 0;pulls 10;");
+            calm.slide(0, 0);
+            calm.undo();
+            is("it bursts by 0, undone or not", calm.then(0, 1, 4), 1);
         });
         sentence("ACTS (at most 40 are kept, the latest ones)", () -> {
             SlideZips x = of(even(16, 9));

@@ -279,6 +279,36 @@ public final class TextEdgeTest extends Checks {
             faulty(";zip 1 to 1;", 1, 0);
             faulty("zip 1 to 1; to", 1, 12);
         });
+        sentence("LINE: (('zip' | 'coil') GRIP GRIP* 'to' GRIP* | 'strain' STRAIN STRAIN* | ('pulls' | 'wears') EXPR) ';', all in capitals but EXPR being NUMBERS (GRIP 0 to 9)", () -> {
+            for (String first : new String[] {"zip", "coil"}) {
+                fine(first + " 0 to 0;");
+                fine(first + " 9 to 9;");
+                faultyAt(first + " @to 0;", 1);
+                faultyAt(first + " @;", 1);
+                faultyAt(first + "@", 1);
+                faultyAt(first + " 0@", 1);
+                faultyAt(first + " 0 @; 0;", 1);
+                faultyAt(first + " 0 to@;", 1);
+                faultyAt(first + " 0 to 0@", 1);
+                faultyAt(first + " 0 to 0 @zip 0 to 0;", 1);
+                faultyAt(first + " @day to 0;", 1);
+                faultyAt(first + " 0 to @(0);", 1);
+                faultyAt(first + " @- 1 to 1;", 1);
+            }
+            fine("strain 0;");
+            faultyAt("strain @day;", 1);
+            faultyAt("strain @(1);", 1);
+            faultyAt("strain 1 @+ 1;", 1);
+            faultyAt("strain 1 @to 1;", 1);
+            for (String first : new String[] {"pulls", "wears"}) {
+                fine(first + " 0;");
+                faultyAt(first + "@;", 1);
+                faultyAt(first + "@", 1);
+                faultyAt(first + " 1@", 1);
+                faultyAt(first + " 1 @zip 0 to 0;", 1);
+                faultyAt(first + " 1 @to 1;", 1);
+            }
+        });
         sentence("ZIPS 0, 1 .. (at most 4)", () -> {
             SlideZips x = of("zip 1 to 1;coil 2 to 2;zip 3 to 3;coil 4 to 4;");
             is("four", x.count(0), 4);
