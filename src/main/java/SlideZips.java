@@ -11,6 +11,7 @@ public final class SlideZips {
     private static final int MOST_PLACES = 16;
     private static final int MOST_STRAINS = 8;
     private static final int MOST_GRIP = 9;
+    private static final int HARDEST_TOLD = 9;
     private static final int MOST_TEXT = 700;
     private static final int BYTES_A_FEED = 20;
     private static final int FURTHEST_DAY = 60;
@@ -28,12 +29,9 @@ public final class SlideZips {
     private static final int ACTS = 1;
     private static final int NOTES = 2;
 
-    private final byte[] tape;
-    private int tapeLength;
     private final Parser parser;
     private int faultPlace;
     private Drawer drawer;
-    private Drawer spare;
     private final Book book;
     private final Book kept;
     private boolean isKept;
@@ -43,12 +41,9 @@ public final class SlideZips {
     private final Dice dice;
 
     public SlideZips() {
-        tape = new byte[MOST_TEXT];
-        tapeLength = 0;
-        drawer = new Drawer();
-        spare = new Drawer();
-        parser = new Parser(tape, spare);
+        parser = new Parser();
         faultPlace = NONE;
+        drawer = new Drawer();
         book = new Book();
         kept = new Book();
         isKept = false;
@@ -64,42 +59,29 @@ public final class SlideZips {
     // ---- the text ----
 
     public int feed(int a, int b, int c, int d, int e) {
-        if (tapeLength + BYTES_A_FEED > MOST_TEXT) {
+        if (parser.tapeLength() + BYTES_A_FEED > MOST_TEXT) {
             return NONE;
         }
-        putBytes(a);
-        putBytes(b);
-        putBytes(c);
-        putBytes(d);
-        putBytes(e);
-        return tapeLength;
-    }
-
-    private void putBytes(int four) {
-        for (int shift = 24; shift >= 0; shift -= 8) {
-            if (tapeLength >= 0 && tapeLength < tape.length) {
-                tape[tapeLength] = (byte) (four >> shift);
-                tapeLength++;
-            }
-        }
+        parser.putBytes(a);
+        parser.putBytes(b);
+        parser.putBytes(c);
+        parser.putBytes(d);
+        parser.putBytes(e);
+        return parser.tapeLength();
     }
 
     public int drawer(int n) throws IllegalArgumentException {
-        if (n < 0 || n > tapeLength) {
+        if (n < 0 || n > parser.tapeLength()) {
             throw new IllegalArgumentException("the tape has not so many bytes");
         }
-        // Read into the spare one: with a fault the drawer in use must stay as it is.
-        int fault = parser.read(n, spare);
-        tapeLength = 0;
+        int fault = parser.read(n);
         if (fault != 0) {
             faultPlace = parser.faultAt();
             book.refuse(TEXTS);
             return fault;
         }
         faultPlace = NONE;
-        Drawer read = spare;
-        spare = drawer;
-        drawer = read;
+        drawer = parser.exchange(drawer);
         book.dropActs();
         book.dropNotes();
         isKept = false;
@@ -122,7 +104,7 @@ public final class SlideZips {
             case 5: return twins();
             case 6: return book.actCount();
             case 7: return book.noteCount();
-            case 8: return tapeLength;
+            case 8: return parser.tapeLength();
             case 9: return book.refusedOf(TEXTS);
             case 10: return book.refusedOf(ACTS);
             case 11: return book.refusedOf(NOTES);
@@ -1104,7 +1086,10 @@ public final class SlideZips {
         }
     }
 
-    /** An expression as a row of steps for a stack: a number from 0 up, or one of the signs below. */
+    /**
+     * An expression as a stretch of a row of steps for a stack: a number from 0 up, or one of the signs
+     * below. The row is its drawer's, so that both rules together need no more than one text has.
+     */
     private static final class Rule {
         static final int STRAIN = -1;
         static final int PLACE = -2;
@@ -1124,15 +1109,13 @@ public final class SlideZips {
         /** Six nested expressions leave at most five numbers waiting each. */
         private static final int DEEPEST = 40;
 
-        private final int[] steps;
         private int from;
         private int to;
         private boolean told;
         private boolean ofDay;
         private final int[] stack;
 
-        Rule(int[] sharedSteps) {
-            steps = sharedSteps;
+        Rule() {
             from = 0;
             to = 0;
             told = false;
@@ -1149,7 +1132,7 @@ public final class SlideZips {
             return told;
         }
 
-        void tell(int first, int behind) {
+        void tell(int[] steps, int first, int behind) {
             from = first;
             to = behind;
             told = true;
@@ -1163,7 +1146,7 @@ public final class SlideZips {
             return ofDay;
         }
 
-        int value(int strain, int place, int hold, int day, int own) {
+        int value(int[] steps, int strain, int place, int hold, int day, int own) {
             int top = 0;
             for (int i = Math.max(0, from); i < to && i < steps.length; i++) {
                 int step = steps[i];
@@ -1233,8 +1216,8 @@ public final class SlideZips {
             strains = 0;
             steps = new int[MOST_TEXT];
             stepCount = 0;
-            pulls = new Rule(steps);
-            wears = new Rule(steps);
+            pulls = new Rule();
+            wears = new Rule();
             day = 0;
             first = NONE;
         }
@@ -1254,12 +1237,12 @@ public final class SlideZips {
 
         /** The next zip, which counts only when it is added. */
         Zip nextZip() {
-            return isFull() ? zips[zips.length - 1] : zips[count];
+            return count >= 0 && count < zips.length ? zips[count] : zips[0];
         }
 
         void addZip() {
             if (!isFull()) {
-                zips[count].slideTo(zips[count].size());
+                nextZip().slideToTop();
                 count++;
             }
         }
@@ -1284,12 +1267,13 @@ public final class SlideZips {
             return stepCount;
         }
 
-        Rule pullsRule() {
-            return pulls;
+        boolean isTold(boolean ofPulls) {
+            return (ofPulls ? pulls : wears).isTold();
         }
 
-        Rule wearsRule() {
-            return wears;
+        /** The steps from a first one on are what pulls, or what wears. */
+        void tell(boolean ofPulls, int firstStep) {
+            (ofPulls ? pulls : wears).tell(steps, firstStep, stepCount);
         }
 
         int zipCount() {
@@ -1302,7 +1286,7 @@ public final class SlideZips {
 
         /** Asked only of a zip that there is; the first one stands in, so that no index fails. */
         Zip zipAt(int zip) {
-            return hasZip(zip) ? zips[zip] : zips[0];
+            return zip >= 0 && zip < zips.length ? zips[zip] : zips[0];
         }
 
         int today() {
@@ -1397,13 +1381,13 @@ public final class SlideZips {
 
         private int pullOn(Zip it, int at, int hard, int aDay) {
             int open = it.openBeside(at);
-            int pull = pulls.isTold() ? pulls.value(hard, at, it.hold(at), aDay, open) : hard + 2 * open;
+            int pull = pulls.isTold() ? pulls.value(steps, hard, at, it.hold(at), aDay, open) : hard + 2 * open;
             return Math.max(0, Math.min(MOST_PULL, pull));
         }
 
         private void burstAt(Zip it, int at, int hard, int aDay, int ahead) {
             if (!it.isCoil()) {
-                int less = wears.isTold() ? wears.value(hard, at, it.hold(at), aDay, ahead) : 1;
+                int less = wears.isTold() ? wears.value(steps, hard, at, it.hold(at), aDay, ahead) : 1;
                 it.wearAt(at, Math.max(0, Math.min(MOST_WEAR, less)));
             }
             it.openAt(at);
@@ -1504,8 +1488,8 @@ public final class SlideZips {
                 return;
             }
             for (int i = 0; i < drawer.zipCount() && i < MOST_ZIPS; i++) {
-                int at = from + 3 * i;
-                drawer.zipAt(i).takeState(out[at], out[at + 1], (int) out[at + 2]);
+                int bits = (int) out[from + 3 * i + 2];
+                drawer.zipAt(i).takeState(out[from + 3 * i], out[from + 3 * i + 1], bits);
             }
             drawer.turnTo((int) out[from + PAGE - 1]);
         }
@@ -1643,7 +1627,7 @@ public final class SlideZips {
         }
     }
 
-    /** Reads a text into a drawer, token by token, up to the first fault. */
+    /** The tape, and what reads it into a drawer, token by token, up to the first fault. */
     private static final class Parser {
         private static final int END = 0;
         private static final int WORD = 1;
@@ -1662,26 +1646,47 @@ public final class SlideZips {
         private static final int MOST_NOTS = 6;
         private static final int NONE_SUCH = -99;
 
-        private final byte[] text;
+        private final byte[] tape;
+        private int tapeLength;
         private int length;
         private int kind;
         private int start;
         private int behind;
-        private int number;
         private int fault;
+        /** Not the drawer in use, which must stay as it is if there is a fault. */
         private Drawer into;
         private boolean ofPulls;
 
-        Parser(byte[] sharedText, Drawer atFirst) {
-            text = sharedText;
+        Parser() {
+            tape = new byte[MOST_TEXT];
+            tapeLength = 0;
             length = 0;
             kind = END;
             start = 0;
             behind = 0;
-            number = 0;
             fault = 0;
-            into = atFirst;
+            into = new Drawer();
             ofPulls = false;
+        }
+
+        int tapeLength() {
+            return tapeLength;
+        }
+
+        void putBytes(int four) {
+            for (int shift = 24; shift >= 0; shift -= 8) {
+                if (tapeLength >= 0 && tapeLength < tape.length) {
+                    tape[tapeLength] = (byte) (four >> shift);
+                    tapeLength++;
+                }
+            }
+        }
+
+        /** Gives the drawer that was read, and takes the one in use till now for the next text. */
+        Drawer exchange(Drawer old) {
+            Drawer read = into;
+            into = old;
+            return read;
         }
 
         /** All faults are found at the token that is looked at, so its start is the fault's place. */
@@ -1689,11 +1694,11 @@ public final class SlideZips {
             return start;
         }
 
-        int read(int many, Drawer newOne) {
-            length = Math.max(0, Math.min(many, text.length));
+        int read(int many) {
+            length = Math.max(0, Math.min(many, tape.length));
+            tapeLength = 0;
             behind = 0;
             fault = 0;
-            into = newOne;
             into.makeEmpty();
             advance();
             for (int lines = 0; lines <= MOST_TEXT && kind != END; lines++) {
@@ -1707,52 +1712,56 @@ public final class SlideZips {
         // -- tokens --
 
         private int byteAt(int at) {
-            return at >= 0 && at < length && at < text.length ? text[at] : 0;
+            return at >= 0 && at < length && at < tape.length ? tape[at] : 0;
         }
 
-        private boolean isLetter(int at) {
-            return byteAt(at) >= 'a' && byteAt(at) <= 'z';
+        private static boolean isLetter(int sign) {
+            return sign >= 'a' && sign <= 'z';
         }
 
-        private boolean isDigit(int at) {
-            return byteAt(at) >= '0' && byteAt(at) <= '9';
+        private static boolean isDigit(int sign) {
+            return sign >= '0' && sign <= '9';
         }
 
-        private boolean isBlank(int at) {
-            return byteAt(at) == ' ' || byteAt(at) == '\n';
+        private static boolean isBlank(int sign) {
+            return sign == ' ' || sign == '\n';
         }
 
         private void advance() {
             start = behind;
-            while (start < length && isBlank(start)) {
+            while (start < length && isBlank(byteAt(start))) {
                 start++;
             }
             behind = start;
+            int sign = byteAt(start);
             if (start >= length) {
                 kind = END;
-            } else if (isLetter(start)) {
+            } else if (isLetter(sign)) {
                 kind = WORD;
-                while (behind < length && isLetter(behind)) {
+                while (behind < length && isLetter(byteAt(behind))) {
                     behind++;
                 }
-            } else if (isDigit(start)) {
+            } else if (isDigit(sign)) {
                 kind = NUMBER;
-                takeNumber();
+                while (behind < length && isDigit(byteAt(behind))) {
+                    behind++;
+                }
             } else {
-                kind = ";()+-*/<=".indexOf((char) (byteAt(start) & 255)) >= 0 ? SIGN : NO_TOKEN;
+                kind = ";()+-*/<=".indexOf((char) (sign & 255)) >= 0 ? SIGN : NO_TOKEN;
                 behind++;
             }
         }
 
-        private void takeNumber() {
-            number = 0;
-            while (behind < length && isDigit(behind)) {
-                number = Math.min(TOO_LONG, number * 10 + byteAt(behind) - '0');
-                behind++;
-            }
+        /** What the digits of a number say; TOO_LONG if they are too many. */
+        private int number() {
             if (behind - start > MOST_DIGITS) {
-                number = TOO_LONG;
+                return TOO_LONG;
             }
+            int number = 0;
+            for (int at = start; at < behind; at++) {
+                number = number * 10 + byteAt(at) - '0';
+            }
+            return number;
         }
 
         private boolean isWord(String word) {
@@ -1797,10 +1806,10 @@ public final class SlideZips {
                 return strainLine();
             }
             if (isWord("pulls")) {
-                return ruleLine(into.pullsRule(), true);
+                return ruleLine(true);
             }
             if (isWord("wears")) {
-                return ruleLine(into.wearsRule(), false);
+                return ruleLine(false);
             }
             return fail(MISPLACED);
         }
@@ -1829,10 +1838,10 @@ public final class SlideZips {
                 if (kind != NUMBER) {
                     return fail(MISPLACED);
                 }
-                if (grips == MOST_PLACES || number > MOST_GRIP) {
+                if (grips == MOST_PLACES || number() > MOST_GRIP) {
                     return fail(TOO_MUCH);
                 }
-                it.putGrip(LEFT, grips, number);
+                it.putGrip(LEFT, grips, number());
                 advance();
             }
             return fail(MISPLACED);
@@ -1843,10 +1852,10 @@ public final class SlideZips {
                 if (kind != NUMBER) {
                     return fail(MISPLACED);
                 }
-                if (number > MOST_GRIP) {
+                if (number() > MOST_GRIP) {
                     return fail(TOO_MUCH);
                 }
-                it.putGrip(RIGHT, at, number);
+                it.putGrip(RIGHT, at, number());
                 advance();
             }
             return true;
@@ -1865,7 +1874,7 @@ public final class SlideZips {
                 if (kind != NUMBER) {
                     return fail(MISPLACED);
                 }
-                if (number > MOST_GRIP || !into.addStrain(number)) {
+                if (number() > HARDEST_TOLD || !into.addStrain(number())) {
                     return fail(TOO_MUCH);
                 }
                 advance();
@@ -1873,8 +1882,8 @@ public final class SlideZips {
             return fail(MISPLACED);
         }
 
-        private boolean ruleLine(Rule rule, boolean pulls) {
-            if (rule.isTold()) {
+        private boolean ruleLine(boolean pulls) {
+            if (into.isTold(pulls)) {
                 return fail(TOLD_TWICE);
             }
             ofPulls = pulls;
@@ -1883,7 +1892,7 @@ public final class SlideZips {
             if (!anyOf(0) || !takeSign(';')) {
                 return false;
             }
-            rule.tell(from, into.stepCount());
+            into.tell(pulls, from);
             return true;
         }
 
@@ -1996,7 +2005,7 @@ public final class SlideZips {
             if (kind != NUMBER && kind != WORD) {
                 return fail(MISPLACED);
             }
-            int step = kind == NUMBER ? number : valueStep();
+            int step = kind == NUMBER ? number() : valueStep();
             if (step >= TOO_LONG) {
                 return fail(TOO_MUCH);
             }
